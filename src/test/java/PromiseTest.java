@@ -393,6 +393,29 @@ public final class PromiseTest {
         Checks.due("12: none allowed", apart.zigzag(), NONE);
     }
 
+    /** The first and the last of all assignments are looked at like any other. */
+    private static void endsOfTheOrder() {
+        RussianDoll first = forced(0, 0, 0, 0, 0, 0);
+        first.own(2, 0, 6);
+        RussianDoll last = forced(2, 2, 2, 2, 2, 2);
+        last.own(3, 2, 7);
+        for (int i = 0; i < 6; i++) {
+            Checks.due("9: first of all, with(" + i + ", 0)", first.with(i, 0), 6);
+            Checks.due("9: last of all, with(" + i + ", 2)", last.with(i, 2), 7);
+        }
+        Checks.due("7: first of all", first.cheapest(), 6);
+        Checks.due("7: last of all", last.cheapest(), 7);
+        dueFirst("8: first of all", first, 0, 0, 0, 0, 0, 0);
+        dueFirst("8: last of all", last, 2, 2, 2, 2, 2, 2);
+
+        first.own(5, 1, 0);
+        first.own(5, 0, 4);
+        Checks.due("11: the other is the first of all", first.second(), 10);
+        last.own(5, 1, 0);
+        Checks.due("11: the other is the last of all", last.second(), 7);
+        Checks.due("10: the other is the last of all", last.settled(5), false);
+    }
+
     private static void orderAndLimits() {
         RussianDoll none = new RussianDoll();
         barAll(none, 5);
@@ -445,6 +468,7 @@ public final class PromiseTest {
         settled();
         second();
         zigzag();
+        endsOfTheOrder();
         orderAndLimits();
         questionsChangeNothing();
         Checks.end();
