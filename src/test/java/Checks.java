@@ -1,9 +1,49 @@
 /** Counts the answers that are not as due, and ends the program with 1 if there was one. */
 final class Checks {
+    // A test program takes a few seconds; this is only for a call that never ends.
+    private static final long LONGEST_RUN_MILLIS = 120_000;
+
     private static int made = 0;
     private static int wrong = 0;
+    private static volatile String running = "";
+
+    static {
+        Thread watch = new Thread(Checks::giveUp);
+        watch.setDaemon(true);
+        watch.start();
+    }
 
     private Checks() {
+    }
+
+    private static void giveUp() {
+        try {
+            Thread.sleep(LONGEST_RUN_MILLIS);
+        } catch (InterruptedException e) {
+            return;
+        }
+        System.out.println("a call does not end: " + running);
+        Runtime.getRuntime().halt(1);
+    }
+
+    /** Runs one test; one that throws, or that looks at nothing, is wrong, and the next goes on. */
+    static void test(String name, Runnable body) {
+        running = name;
+        int madeBefore = made;
+        int wrongBefore = wrong;
+        try {
+            body.run();
+        } catch (Throwable thrown) {
+            wrong++;
+            System.out.println("threw " + thrown);
+        }
+        if (made == madeBefore) {
+            wrong++;
+            System.out.println("checked nothing");
+        }
+        if (wrong != wrongBefore) {
+            System.out.println("  in the test: " + name);
+        }
     }
 
     static void due(String call, int got, int want) {

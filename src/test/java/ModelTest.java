@@ -225,18 +225,23 @@ public final class ModelTest {
         }
     }
 
+    private static void longRun(int run) {
+        RussianDoll doll = new RussianDoll();
+        Model model = new Model();
+        for (int call = 0; call < CALLS; call++) {
+            String at = "run " + run + ", call " + call + ": ";
+            if (below(3) > 0) {
+                change(run, at, doll, model);
+            } else {
+                ask(at, doll, model);
+            }
+        }
+    }
+
     public static void main(String[] args) {
         for (int run = 0; run < RUNS; run++) {
-            RussianDoll doll = new RussianDoll();
-            Model model = new Model();
-            for (int call = 0; call < CALLS; call++) {
-                String at = "run " + run + ", call " + call + ": ";
-                if (below(3) > 0) {
-                    change(run, at, doll, model);
-                } else {
-                    ask(at, doll, model);
-                }
-            }
+            int number = run;
+            Checks.test("run " + number, () -> longRun(number));
         }
         Checks.end();
     }

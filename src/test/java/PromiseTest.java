@@ -1,16 +1,12 @@
 /** Each promise of the document in turn: ordinary calls, the edges it names, and wrong arguments. */
 public final class PromiseTest {
-    private static final int BAD_ARG = -1;
-    private static final int NONE = -4;
-    private static final int BARRED = 99;
+    private static final int BAD_ARG = Dolls.BAD_ARG;
+    private static final int NONE = Dolls.NONE;
+    private static final int BARRED = Dolls.BARRED;
 
-    private static final int[] NO_COSTS = {Integer.MIN_VALUE, -4, -1, 31, 98, 100, Integer.MAX_VALUE};
-    private static final int[] NO_VARIABLES = {Integer.MIN_VALUE, -1, 6, 7, Integer.MAX_VALUE};
-    private static final int[] NO_VALUES = {Integer.MIN_VALUE, -1, 3, Integer.MAX_VALUE};
-
-    private static int code(int i, int j) {
-        return 6 * i + j;
-    }
+    private static final int[] NO_COSTS = Dolls.NO_COSTS;
+    private static final int[] NO_VARIABLES = Dolls.NO_VARIABLES;
+    private static final int[] NO_VALUES = Dolls.NO_VALUES;
 
     /** Bars every value of variable i but x. */
     private static void force(RussianDoll doll, int i, int x) {
@@ -18,20 +14,6 @@ public final class PromiseTest {
             if (other != x) {
                 doll.own(i, other, BARRED);
             }
-        }
-    }
-
-    private static RussianDoll forced(int... values) {
-        RussianDoll doll = new RussianDoll();
-        for (int i = 0; i < values.length; i++) {
-            force(doll, i, values[i]);
-        }
-        return doll;
-    }
-
-    private static void barAll(RussianDoll doll, int i) {
-        for (int x = 0; x < 3; x++) {
-            doll.own(i, x, BARRED);
         }
     }
 
@@ -49,7 +31,7 @@ public final class PromiseTest {
             }
             for (int j = i + 1; j < 6; j++) {
                 for (int v = 0; v < 9; v++) {
-                    Checks.due(name + ": pair(" + code(i, j) + ", " + v + ", 0)", doll.pair(code(i, j), v, 0), 0);
+                    Checks.due(name + ": pair(" + Dolls.code(i, j) + ", " + v + ", 0)", doll.pair(Dolls.code(i, j), v, 0), 0);
                 }
             }
         }
@@ -71,7 +53,7 @@ public final class PromiseTest {
         Checks.due("1: zigzag()", doll.zigzag(), 0);
 
         RussianDoll other = new RussianDoll();
-        barAll(other, 0);
+        Dolls.bar(other, 0);
         Checks.due("1: objects share nothing", doll.cheapest(), 0);
     }
 
@@ -121,7 +103,7 @@ public final class PromiseTest {
             for (int i = 0; i < 6; i++) {
                 for (int j = i + 1; j < 6; j++) {
                     for (int v = parity; v < 9; v += 2) {
-                        int number = code(i, j);
+                        int number = Dolls.code(i, j);
                         Checks.due("3: cost before " + number + ", " + v, doll.pair(number, v, BARRED), (number + v) % 31);
                         Checks.due("3: BARRED before", doll.pair(number, v, 30), BARRED);
                     }
@@ -144,9 +126,9 @@ public final class PromiseTest {
     }
 
     private static void pairNamesItsValues() {
-        RussianDoll doll = forced(1, 0, 2, 0, 0, 0);
-        doll.pair(code(0, 2), 3 * 1 + 2, 13);
-        doll.pair(code(0, 2), 3 * 2 + 1, 20);
+        RussianDoll doll = Dolls.only(1, 0, 2, 0, 0, 0);
+        doll.pair(Dolls.code(0, 2), 3 * 1 + 2, 13);
+        doll.pair(Dolls.code(0, 2), 3 * 2 + 1, 20);
         Checks.due("3: x is of i and y of j", doll.cheapest(), 13);
     }
 
@@ -170,8 +152,8 @@ public final class PromiseTest {
             for (int j = 0; j < 6; j++) {
                 RussianDoll doll = new RussianDoll();
                 int due = i < j ? 0 : BAD_ARG;
-                Checks.due("4: relate(" + code(i, j) + ", 1, 30)", doll.relate(code(i, j), 1, 30), due);
-                Checks.due("4: relate(" + code(i, j) + ", 0, 99)", doll.relate(code(i, j), 0, BARRED), due);
+                Checks.due("4: relate(" + Dolls.code(i, j) + ", 1, 30)", doll.relate(Dolls.code(i, j), 1, 30), due);
+                Checks.due("4: relate(" + Dolls.code(i, j) + ", 0, 99)", doll.relate(Dolls.code(i, j), 0, BARRED), due);
                 Checks.due("4: after relate", doll.cheapest(), i < j ? 30 : 0);
             }
         }
@@ -192,10 +174,10 @@ public final class PromiseTest {
     private static void clear() {
         RussianDoll doll = new RussianDoll();
         for (int i = 0; i < 6; i++) {
-            barAll(doll, i);
+            Dolls.bar(doll, i);
             for (int j = i + 1; j < 6; j++) {
-                doll.relate(code(i, j), 0, 30);
-                doll.relate(code(i, j), 1, BARRED);
+                doll.relate(Dolls.code(i, j), 0, 30);
+                doll.relate(Dolls.code(i, j), 1, BARRED);
             }
         }
         Checks.due("5: before clear", doll.cheapest(), NONE);
@@ -213,13 +195,13 @@ public final class PromiseTest {
                 doll.own(i, x, i + 1 + x);
             }
         }
-        doll.relate(code(2, 4), 0, 20);
-        doll.relate(code(2, 4), 1, 10);
+        doll.relate(Dolls.code(2, 4), 0, 20);
+        doll.relate(Dolls.code(2, 4), 1, 10);
         int[] due = {31, 30, 28, 15, 11, 6};
         for (int i = 0; i < 6; i++) {
             Checks.due("6: doll(" + i + ")", doll.doll(i), due[i]);
         }
-        barAll(doll, 3);
+        Dolls.bar(doll, 3);
         for (int i = 0; i < 6; i++) {
             Checks.due("6: doll(" + i + ") with 3 barred", doll.doll(i), i <= 3 ? NONE : due[i]);
         }
@@ -230,8 +212,8 @@ public final class PromiseTest {
 
     private static void dollLeavesEarlierOut() {
         RussianDoll doll = new RussianDoll();
-        doll.relate(code(1, 5), 0, BARRED);
-        doll.relate(code(1, 5), 1, BARRED);
+        doll.relate(Dolls.code(1, 5), 0, BARRED);
+        doll.relate(Dolls.code(1, 5), 1, BARRED);
         Checks.due("6: pair with an earlier variable", doll.doll(2), 0);
         Checks.due("6: pair of its own", doll.doll(1), NONE);
         Checks.due("6: doll(0)", doll.doll(0), NONE);
@@ -244,8 +226,8 @@ public final class PromiseTest {
                 dear.own(i, x, 30);
             }
             for (int j = i + 1; j < 6; j++) {
-                dear.relate(code(i, j), 0, 30);
-                dear.relate(code(i, j), 1, 30);
+                dear.relate(Dolls.code(i, j), 0, 30);
+                dear.relate(Dolls.code(i, j), 1, 30);
             }
         }
         Checks.due("7: everything at its dearest", dear.cheapest(), 21 * 30);
@@ -255,35 +237,35 @@ public final class PromiseTest {
         RussianDoll trap = new RussianDoll();
         trap.own(0, 1, 2);
         trap.own(0, 2, 3);
-        trap.pair(code(0, 5), 0, 30);
-        trap.pair(code(0, 5), 1, 30);
-        trap.pair(code(0, 5), 2, 30);
+        trap.pair(Dolls.code(0, 5), 0, 30);
+        trap.pair(Dolls.code(0, 5), 1, 30);
+        trap.pair(Dolls.code(0, 5), 2, 30);
         Checks.due("7: not the cheapest value by itself", trap.cheapest(), 2);
 
         for (int i = 0; i < 6; i++) {
             RussianDoll none = new RussianDoll();
-            barAll(none, i);
+            Dolls.bar(none, i);
             Checks.due("7: variable " + i + " has no value", none.cheapest(), NONE);
         }
         RussianDoll four = new RussianDoll();
         for (int i = 0; i < 4; i++) {
             for (int j = i + 1; j < 4; j++) {
-                four.relate(code(i, j), 1, BARRED);
+                four.relate(Dolls.code(i, j), 1, BARRED);
             }
         }
         Checks.due("7: four different ones of three values", four.cheapest(), NONE);
     }
 
     private static void value() {
-        dueFirst("8: the only one", forced(2, 0, 1, 1, 2, 0), 2, 0, 1, 1, 2, 0);
+        dueFirst("8: the only one", Dolls.only(2, 0, 1, 1, 2, 0), 2, 0, 1, 1, 2, 0);
 
         RussianDoll ties = new RussianDoll();
-        ties.relate(code(0, 1), 1, 1);
-        ties.relate(code(4, 5), 1, 1);
+        ties.relate(Dolls.code(0, 1), 1, 1);
+        ties.relate(Dolls.code(4, 5), 1, 1);
         dueFirst("8: first of many", ties, 0, 1, 0, 0, 0, 1);
 
         RussianDoll tradeOff = new RussianDoll();
-        tradeOff.pair(code(0, 5), 0, 3);
+        tradeOff.pair(Dolls.code(0, 5), 0, 3);
         tradeOff.own(5, 2, BARRED);
         dueFirst("8: variable 0 comes first in the order", tradeOff, 0, 0, 0, 0, 0, 1);
 
@@ -294,7 +276,7 @@ public final class PromiseTest {
         dueFirst("8: cheap before early", late, 1, 0, 0, 0, 0, 0);
 
         RussianDoll none = new RussianDoll();
-        barAll(none, 5);
+        Dolls.bar(none, 5);
         dueFirst("8: none allowed", none, NONE, NONE, NONE, NONE, NONE, NONE);
         for (int i : NO_VARIABLES) {
             Checks.due("8: value(" + i + ")", late.value(i), BAD_ARG);
@@ -306,7 +288,7 @@ public final class PromiseTest {
         doll.own(3, 0, 5);
         doll.own(3, 1, 8);
         doll.own(3, 2, BARRED);
-        doll.relate(code(3, 4), 1, 2);
+        doll.relate(Dolls.code(3, 4), 1, 2);
         doll.own(4, 1, 1);
         doll.own(4, 2, 4);
         int[][] due = {{6, 6, 6}, {6, 6, 6}, {6, 6, 6}, {6, 8, NONE}, {7, 6, 9}, {6, 6, 6}};
@@ -321,12 +303,12 @@ public final class PromiseTest {
         for (int x : NO_VALUES) {
             Checks.due("9: with(3, " + x + ")", doll.with(3, x), BAD_ARG);
         }
-        barAll(doll, 0);
+        Dolls.bar(doll, 0);
         Checks.due("9: none allowed", doll.with(5, 0), NONE);
     }
 
     private static void settled() {
-        RussianDoll only = forced(0, 1, 2, 0, 1, 2);
+        RussianDoll only = Dolls.only(0, 1, 2, 0, 1, 2);
         for (int i = 0; i < 6; i++) {
             Checks.due("10: the only one, settled(" + i + ")", only.settled(i), true);
         }
@@ -344,7 +326,7 @@ public final class PromiseTest {
         Checks.due("10: the last value as cheap", some.settled(1), false);
 
         RussianDoll none = new RussianDoll();
-        barAll(none, 2);
+        Dolls.bar(none, 2);
         for (int i = 0; i < 6; i++) {
             Checks.due("10: none allowed, settled(" + i + ")", none.settled(i), false);
         }
@@ -354,7 +336,7 @@ public final class PromiseTest {
     }
 
     private static void second() {
-        RussianDoll only = forced(0, 1, 2, 0, 1, 2);
+        RussianDoll only = Dolls.only(0, 1, 2, 0, 1, 2);
         Checks.due("11: only one allowed", only.second(), NONE);
         only.own(5, 0, 17);
         Checks.due("11: one other", only.second(), 17);
@@ -377,7 +359,7 @@ public final class PromiseTest {
     private static void zigzag() {
         for (int i = 0; i < 5; i++) {
             RussianDoll doll = new RussianDoll();
-            doll.relate(code(i, i + 1), 0, 12);
+            doll.relate(Dolls.code(i, i + 1), 0, 12);
             Checks.due("12: " + i + " and the next want to be the same", doll.zigzag(), 12);
             Checks.due("12: cheapest is free of that", doll.cheapest(), 0);
             force(doll, i, 1);
@@ -385,19 +367,19 @@ public final class PromiseTest {
             Checks.due("12: " + i + " and the next must be the same", doll.zigzag(), NONE);
             Checks.due("12: which is allowed", doll.cheapest(), 0);
         }
-        RussianDoll apart = forced(0, 1, 0, 1, 0, 1);
+        RussianDoll apart = Dolls.only(0, 1, 0, 1, 0, 1);
         apart.own(3, 1, 8);
         Checks.due("12: only neighbours must differ", apart.zigzag(), 8);
-        Checks.due("12: the ends may be the same", forced(0, 1, 2, 1, 2, 0).zigzag(), 0);
-        barAll(apart, 5);
+        Checks.due("12: the ends may be the same", Dolls.only(0, 1, 2, 1, 2, 0).zigzag(), 0);
+        Dolls.bar(apart, 5);
         Checks.due("12: none allowed", apart.zigzag(), NONE);
     }
 
     /** The first and the last of all assignments are looked at like any other. */
     private static void endsOfTheOrder() {
-        RussianDoll first = forced(0, 0, 0, 0, 0, 0);
+        RussianDoll first = Dolls.only(0, 0, 0, 0, 0, 0);
         first.own(2, 0, 6);
-        RussianDoll last = forced(2, 2, 2, 2, 2, 2);
+        RussianDoll last = Dolls.only(2, 2, 2, 2, 2, 2);
         last.own(3, 2, 7);
         for (int i = 0; i < 6; i++) {
             Checks.due("9: first of all, with(" + i + ", 0)", first.with(i, 0), 6);
@@ -418,7 +400,7 @@ public final class PromiseTest {
 
     private static void orderAndLimits() {
         RussianDoll none = new RussianDoll();
-        barAll(none, 5);
+        Dolls.bar(none, 5);
         for (int i : NO_VARIABLES) {
             Checks.due("13: doll(" + i + ")", none.doll(i), BAD_ARG);
             Checks.due("13: value(" + i + ")", none.value(i), BAD_ARG);
@@ -436,7 +418,7 @@ public final class PromiseTest {
     private static void questionsChangeNothing() {
         RussianDoll doll = new RussianDoll();
         doll.own(0, 0, 3);
-        doll.relate(code(1, 2), 1, 4);
+        doll.relate(Dolls.code(1, 2), 1, 4);
         for (int round = 0; round < 2; round++) {
             Checks.due("terms: doll(1)", doll.doll(1), 0);
             Checks.due("terms: cheapest()", doll.cheapest(), 0);
@@ -447,30 +429,30 @@ public final class PromiseTest {
             Checks.due("terms: zigzag()", doll.zigzag(), 0);
         }
         Checks.due("terms: own cost stays", doll.own(0, 0, 0), 3);
-        Checks.due("terms: pair cost stays", doll.pair(code(1, 2), 4, 4), 4);
-        doll.relate(code(1, 2), 1, 0);
+        Checks.due("terms: pair cost stays", doll.pair(Dolls.code(1, 2), 4, 4), 4);
+        doll.relate(Dolls.code(1, 2), 1, 0);
         dueAllCostsZero("terms", doll);
     }
 
     public static void main(String[] args) {
-        newObject();
-        own();
-        pair();
-        pairNamesItsValues();
-        relate();
-        relateRefused();
-        clear();
-        doll();
-        dollLeavesEarlierOut();
-        cheapest();
-        value();
-        with();
-        settled();
-        second();
-        zigzag();
-        endsOfTheOrder();
-        orderAndLimits();
-        questionsChangeNothing();
+        Checks.test("newObject", PromiseTest::newObject);
+        Checks.test("own", PromiseTest::own);
+        Checks.test("pair", PromiseTest::pair);
+        Checks.test("pairNamesItsValues", PromiseTest::pairNamesItsValues);
+        Checks.test("relate", PromiseTest::relate);
+        Checks.test("relateRefused", PromiseTest::relateRefused);
+        Checks.test("clear", PromiseTest::clear);
+        Checks.test("doll", PromiseTest::doll);
+        Checks.test("dollLeavesEarlierOut", PromiseTest::dollLeavesEarlierOut);
+        Checks.test("cheapest", PromiseTest::cheapest);
+        Checks.test("value", PromiseTest::value);
+        Checks.test("with", PromiseTest::with);
+        Checks.test("settled", PromiseTest::settled);
+        Checks.test("second", PromiseTest::second);
+        Checks.test("zigzag", PromiseTest::zigzag);
+        Checks.test("endsOfTheOrder", PromiseTest::endsOfTheOrder);
+        Checks.test("orderAndLimits", PromiseTest::orderAndLimits);
+        Checks.test("questionsChangeNothing", PromiseTest::questionsChangeNothing);
         Checks.end();
     }
 }
