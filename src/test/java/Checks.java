@@ -3,8 +3,12 @@ final class Checks {
     // A test program takes a few seconds; this is only for a call that never ends.
     private static final long LONGEST_RUN_MILLIS = 120_000;
 
+    // A class that is broken throughout would print a line for each of a million checks.
+    private static final int PRINTED_PER_TEST = 20;
+
     private static int made = 0;
     private static int wrong = 0;
+    private static int wrongBefore = 0;
     private static volatile String running = "";
 
     static {
@@ -30,7 +34,7 @@ final class Checks {
     static void test(String name, Runnable body) {
         running = name;
         int madeBefore = made;
-        int wrongBefore = wrong;
+        wrongBefore = wrong;
         try {
             body.run();
         } catch (Throwable thrown) {
@@ -42,7 +46,7 @@ final class Checks {
             System.out.println("checked nothing");
         }
         if (wrong != wrongBefore) {
-            System.out.println("  in the test: " + name);
+            System.out.println("  " + (wrong - wrongBefore) + " wrong in the test: " + name);
         }
     }
 
@@ -50,7 +54,9 @@ final class Checks {
         made++;
         if (got != want) {
             wrong++;
-            System.out.println(call + " answered " + got + ", due is " + want);
+            if (wrong - wrongBefore <= PRINTED_PER_TEST) {
+                System.out.println(call + " answered " + got + ", due is " + want);
+            }
         }
     }
 
